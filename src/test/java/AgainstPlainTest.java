@@ -2,7 +2,7 @@ import java.util.Random;
 
 /** Long runs of calls, the same ones on both classes; every answer must be the same. */
 public final class AgainstPlainTest {
-    private static final int RUNS = 250;
+    private static final int RUNS = 200;
     private static final int SWEEPS = 400;
     private static final int CALLS = 400;
     private static final int BUILDING = 30;
@@ -31,6 +31,7 @@ public final class AgainstPlainTest {
         }
         for (int seed = RUNS; seed < RUNS + SWEEPS; seed++) {
             new AgainstPlainTest(seed).sweepOrder();
+            new AgainstPlainTest(-seed).sweepRelations();
         }
         Checks.end("AgainstPlainTest");
     }
@@ -62,6 +63,38 @@ public final class AgainstPlainTest {
             for (int at = 0; at <= y.ring(); at++) {
                 int asked = at;
                 same("ringAt(" + at + ")", () -> x.ringAt(asked), () -> y.ringAt(asked));
+            }
+        }
+    }
+
+    /** Few relations, made of few others, each asked for all pairs of a small program. */
+    private void sweepRelations() {
+        same("thread()", () -> x.thread(), () -> y.thread());
+        same("thread()", () -> x.thread(), () -> y.thread());
+        for (int i = 0; i < 6; i++) {
+            int thread = random.nextInt(2);
+            int kind = random.nextInt(2);
+            same("event(" + thread + ", " + kind + ", 0, 1)",
+                () -> x.event(thread, kind, 0, 1), () -> y.event(thread, kind, 0, 1));
+        }
+        for (int i = 0; i < 8; i++) {
+            int how = random.nextInt(6);
+            int a = random.nextInt(y.count(3));
+            int b = 5 + random.nextInt(y.count(3) - 5);
+            same("make(" + how + ", " + a + ", " + b + ")",
+                () -> x.make(how, a, b), () -> y.make(how, a, b));
+        }
+        same("rule(19)", () -> x.rule(19), () -> y.rule(19));
+        same("run()", () -> x.run(), () -> y.run());
+        int e = random.nextInt(Math.max(1, y.count(6)));
+        same("look(" + e + ")", () -> x.look(e), () -> y.look(e));
+        for (int relation = 12; relation < 20; relation++) {
+            for (int pair = 0; pair < 36; pair++) {
+                int asked = relation;
+                int a = pair / 6;
+                int b = pair % 6;
+                same("related(" + relation + ", " + a + ", " + b + ")",
+                    () -> x.related(asked, a, b) ? 1 : 0, () -> y.related(asked, a, b) ? 1 : 0);
             }
         }
     }

@@ -236,14 +236,20 @@ public final class PromisesTest {
         int difference = x.make(2, 0, 5);
         int join = x.make(3, 9, 10);
         int turn = x.make(4, 5, 0);
+        int turnedBack = x.make(4, turn, 0);
         int both = x.make(0, 5, x.make(4, 10, 0));
         int closure = x.make(5, both, 0);
+        int next = x.make(2, 0, x.make(3, 0, 0));
+        int steps = x.make(5, next, 0);
         x.look(0);
+        Checks.due("5: one step alone", pairsOf(x, next, 4), "0-1 1-2 2-3");
+        Checks.due("5: by more steps", pairsOf(x, steps, 4), "0-1 0-2 0-3 1-2 1-3 2-3");
         Checks.due("5: UNION", pairsOf(x, union, 4), "0-3 1-2");
         Checks.due("5: MEET", pairsOf(x, meet, 4), "0-2 1-3");
         Checks.due("5: DIFFERENCE", pairsOf(x, difference, 4), "0-1 0-3 1-2 2-3");
         Checks.due("5: JOIN", pairsOf(x, join, 4), "0-3");
         Checks.due("5: TURN", pairsOf(x, turn, 4), "2-0 3-1");
+        Checks.due("5: TURN of a TURN", pairsOf(x, turnedBack, 4), "0-2 1-3");
         Checks.due("5: a part of CLOSURE", pairsOf(x, both, 4), "0-2 1-3 3-1 3-2");
         Checks.due("5: CLOSURE", pairsOf(x, closure, 4), "0-2 1-1 1-2 1-3 3-1 3-2 3-3");
     }
@@ -603,6 +609,14 @@ public final class PromisesTest {
         x.look(0);
         Checks.due("14: BACK of the beginning", pairsOf(x, 3, 8), "1-0 1-5 1-7 3-0 3-5 3-7");
         Checks.due("14: FROM the beginning", pairsOf(x, 1, 8), "");
+        OrderAxioms y = withThreads(2);
+        y.event(0, READ, 0, 0);
+        y.event(1, READ, 0, 0);
+        y.event(0, READ, 0, 0);
+        y.event(1, WRITE, 0, 0);
+        y.look(7);
+        Checks.due("14: FROM one write", pairsOf(y, 1, 4), "3-0 3-1 3-2");
+        Checks.due("14: OUTER of one write", pairsOf(y, 4, 4), "3-0 3-2");
     }
 
     private static void relatedStays() {
