@@ -1,10 +1,13 @@
 import java.util.Random;
 
-/** Long runs of calls, the same ones on both classes; every answer must be the same. */
+/**
+ * Long runs of calls, the same ones on both classes; every answer must be the same. No object
+ * is called more than 512 times, since answers behind that are free.
+ */
 public final class AgainstPlainTest {
     private static final int RUNS = 200;
     private static final int SWEEPS = 400;
-    private static final int CALLS = 400;
+    private static final int CALLS = 500;
     private static final int BUILDING = 30;
 
     private final Random random;
@@ -12,6 +15,7 @@ public final class AgainstPlainTest {
     private final OrderAxioms x = new OrderAxioms();
     private final PlainOrder y = new PlainOrder();
     private int eventLimit;
+    private int calls = 0;
 
     private AgainstPlainTest(int seed) {
         this.seed = seed;
@@ -22,10 +26,10 @@ public final class AgainstPlainTest {
     public static void main(String[] args) {
         for (int seed = 0; seed < RUNS; seed++) {
             AgainstPlainTest test = new AgainstPlainTest(seed);
-            for (int call = 0; call < BUILDING; call++) {
+            for (int step = 0; step < BUILDING; step++) {
                 test.buildProgram(test.random.nextInt(19));
             }
-            for (int call = BUILDING; call < CALLS; call++) {
+            while (test.calls < CALLS) {
                 test.callBoth();
             }
         }
@@ -48,7 +52,8 @@ public final class AgainstPlainTest {
             int place = random.nextInt(threads);
             int value = i + 1;
             same("event(" + thread + ", " + kind + ", " + place + ", " + value + ")",
-                () -> x.event(thread, kind, place, value), () -> y.event(thread, kind, place, value));
+                () -> x.event(thread, kind, place, value),
+                () -> y.event(thread, kind, place, value));
         }
         int order = 1 + random.nextInt(5);
         same("given(" + order + ")", () -> x.given(order), () -> y.given(order));
@@ -102,7 +107,8 @@ public final class AgainstPlainTest {
     private void sweepOutcome(int k) {
         for (int i = 0; i < y.count(2); i++) {
             int asked = i;
-            same("outcome(" + k + ", " + i + ")", () -> x.outcome(k, asked), () -> y.outcome(k, asked));
+            same("outcome(" + k + ", " + i + ")",
+                () -> x.outcome(k, asked), () -> y.outcome(k, asked));
         }
         same("witness(" + k + ", 0)", () -> x.witness(k, 0), () -> y.witness(k, 0));
         same("witness(" + k + ", 1)", () -> x.witness(k, 1), () -> y.witness(k, 1));
@@ -145,11 +151,13 @@ public final class AgainstPlainTest {
             same("thread()", () -> x.thread(), () -> y.thread());
         } else if (dice < 14 && y.count(1) < eventLimit) {
             int thread = index(y.count(0));
-            int kind = random.nextInt(30) == 0 ? index(3) : new int[] {0, 0, 0, 1, 1, 2}[random.nextInt(6)];
+            int kind = random.nextInt(30) == 0 ? index(3)
+                : new int[] {0, 0, 0, 1, 1, 2}[random.nextInt(6)];
             int place = random.nextInt(3) == 0 ? index(4) : random.nextInt(2);
             int value = value();
             same("event(" + thread + ", " + kind + ", " + place + ", " + value + ")",
-                () -> x.event(thread, kind, place, value), () -> y.event(thread, kind, place, value));
+                () -> x.event(thread, kind, place, value),
+                () -> y.event(thread, kind, place, value));
         } else if (dice < 19) {
             int b = index(y.count(1));
             int a = random.nextInt(4) == 0 ? index(y.count(1)) : index(Math.max(b, 1));
@@ -208,7 +216,8 @@ public final class AgainstPlainTest {
         } else if (dice < 75) {
             int place = index(4);
             int i = index(random.nextInt(4) + 1);
-            same("order(" + place + ", " + i + ")", () -> x.order(place, i), () -> y.order(place, i));
+            same("order(" + place + ", " + i + ")",
+                () -> x.order(place, i), () -> y.order(place, i));
         } else if (dice < 88) {
             int relation = index(y.count(3));
             int a = index(y.count(1));
@@ -224,6 +233,7 @@ public final class AgainstPlainTest {
     }
 
     private void same(String call, Checks.Call tested, Checks.Call plain) {
+        calls++;
         Checks.due("seed " + seed + ": " + call, Checks.answerOf(tested), Checks.answerOf(plain));
     }
 }

@@ -1,13 +1,5 @@
 /** For each promise of the document: ordinary inputs, the edges that it names, wrong inputs. */
-public final class PromisesTest {
-    private static final int READ = 0;
-    private static final int WRITE = 1;
-    private static final int FENCE = 2;
-    private static final int[] WILD = {-1, Integer.MIN_VALUE, Integer.MAX_VALUE};
-    private static final Class<?> ARGUMENT = IllegalArgumentException.class;
-    private static final Class<?> UNSUPPORTED = UnsupportedOperationException.class;
-    private static final Class<?> INDEX = IndexOutOfBoundsException.class;
-
+public final class PromisesTest extends Programs {
     public static void main(String[] args) {
         newObject();
         threads();
@@ -33,92 +25,6 @@ public final class PromisesTest {
         counts();
         clears();
         Checks.end("PromisesTest");
-    }
-
-    private static OrderAxioms withThreads(int threads) {
-        OrderAxioms x = new OrderAxioms();
-        for (int i = 0; i < threads; i++) {
-            x.thread();
-        }
-        return x;
-    }
-
-    /** Writes place 0, reads place 1; and the other way round. */
-    private static OrderAxioms storeBuffering() {
-        OrderAxioms x = withThreads(2);
-        x.event(0, WRITE, 0, 1);
-        x.event(0, READ, 1, 0);
-        x.event(1, WRITE, 1, 1);
-        x.event(1, READ, 0, 0);
-        return x;
-    }
-
-    private static OrderAxioms storeBufferingFenced() {
-        OrderAxioms x = withThreads(2);
-        x.event(0, WRITE, 0, 1);
-        x.event(0, FENCE, 0, 0);
-        x.event(0, READ, 1, 0);
-        x.event(1, WRITE, 1, 1);
-        x.event(1, FENCE, 0, 0);
-        x.event(1, READ, 0, 0);
-        return x;
-    }
-
-    private static OrderAxioms messagePassing() {
-        OrderAxioms x = withThreads(2);
-        x.event(0, WRITE, 0, 1);
-        x.event(0, WRITE, 1, 1);
-        x.event(1, READ, 1, 0);
-        x.event(1, READ, 0, 0);
-        return x;
-    }
-
-    private static OrderAxioms loadBuffering(boolean depending) {
-        OrderAxioms x = withThreads(2);
-        x.event(0, READ, 0, 0);
-        x.event(0, WRITE, 1, 1);
-        x.event(1, READ, 1, 0);
-        x.event(1, WRITE, 0, 1);
-        if (depending) {
-            x.depends(0, 1);
-            x.depends(2, 3);
-        }
-        return x;
-    }
-
-    /** All outcomes of a new run, each as its values in brackets. */
-    private static String outcomesOf(OrderAxioms x) {
-        StringBuilder text = new StringBuilder();
-        int outcomes = x.run();
-        for (int k = 0; k < outcomes; k++) {
-            text.append('[');
-            for (int i = 0; i < x.count(2); i++) {
-                text.append(i == 0 ? "" : " ").append(x.outcome(k, i));
-            }
-            text.append(']');
-        }
-        return text.toString();
-    }
-
-    private static String ringOf(OrderAxioms x) {
-        StringBuilder text = new StringBuilder();
-        for (int i = 0; i < x.ring(); i++) {
-            text.append(i == 0 ? "" : " ").append(x.ringAt(i));
-        }
-        return text.toString();
-    }
-
-    /** All pairs of a relation in the execution looked at, each as its two events. */
-    private static String pairsOf(OrderAxioms x, int relation, int events) {
-        StringBuilder text = new StringBuilder();
-        for (int a = 0; a < events; a++) {
-            for (int b = 0; b < events; b++) {
-                if (x.related(relation, a, b)) {
-                    text.append(text.length() == 0 ? "" : " ").append(a).append('-').append(b);
-                }
-            }
-        }
-        return text.toString();
     }
 
     private static void newObject() {
@@ -584,7 +490,7 @@ public final class PromisesTest {
         Checks.due("13: it stays", x.order(3, 0), 3);
     }
 
-    private static void givenRelations() {
+    private static OrderAxioms eightEvents() {
         OrderAxioms x = withThreads(2);
         x.event(0, WRITE, 0, 1);
         x.event(0, READ, 0, 0);
@@ -596,16 +502,22 @@ public final class PromisesTest {
         x.event(0, WRITE, 0, 3);
         x.depends(1, 6);
         x.depends(1, 7);
-        // Read 1 reads 0, read 3 reads 7, read 6 the beginning; the order is 5, 0, 7.
-        x.look(6 * (4 + 3) + 2);
-        Checks.due("14: looked at", x.source(0) + " " + x.source(1) + " " + x.source(2) + " "
-            + x.order(0, 0) + " " + x.order(0, 1) + " " + x.order(0, 2), "0 7 -1 5 0 7");
+        return x;
+    }
+
+    private static void givenRelations() {
         String program = "0-1 0-2 0-4 0-6 0-7 1-2 1-4 1-6 1-7 2-4 2-6 2-7 3-5 4-6 4-7 6-7";
         String[] due = {program, "0-1 7-3", "0-7 5-0 5-7", "1-7", "7-3", "0-1 0-7 1-7 3-5",
             "1-6 1-7", "0-6 0-7 1-6 1-7", "1-6", "1-7 3-5 6-7", "0-1 0-6", "0-7"};
         for (int relation = 0; relation < due.length; relation++) {
+            OrderAxioms x = eightEvents();
+            // Read 1 reads 0, read 3 reads 7, read 6 the beginning; the order is 5, 0, 7.
+            x.look(6 * (4 + 3) + 2);
+            Checks.due("14: looked at", sourcesOf(x, 3) + " / " + orderOf(x, 0, 3),
+                "0 7 -1 / 5 0 7");
             Checks.due("14: given " + relation, pairsOf(x, relation, 8), due[relation]);
         }
+        OrderAxioms x = eightEvents();
         x.look(0);
         Checks.due("14: BACK of the beginning", pairsOf(x, 3, 8), "1-0 1-5 1-7 3-0 3-5 3-7");
         Checks.due("14: FROM the beginning", pairsOf(x, 1, 8), "");
