@@ -14,6 +14,7 @@ public final class ListingEdgesTest extends Programs {
         refusedRunKeepsListed();
         refusedRunOfNewObject();
         runAgainReplaces();
+        runAgainForgetsValues();
         runKeepsLookedAt();
         listedUnderTheRulesThen();
         outcomeOfNoNumber();
@@ -195,6 +196,24 @@ public final class ListingEdgesTest extends Programs {
             Checks.due("8: the same each time", x.run(), 1);
             Checks.due("8: not one more", witnessesOf(x), "[1 of 0]");
         }
+    }
+
+    private static void runAgainForgetsValues() {
+        OrderAxioms x = withThreads(1);
+        for (int place = 0; place < 4; place++) {
+            x.event(0, WRITE, place, -7 - place);
+        }
+        x.event(0, READ, 0, 0);
+        x.event(0, READ, 3, 0);
+        Checks.due("8: low values", outcomesOf(x), "[-7 -10][-7 0][0 -10][0 0]");
+        x.clear();
+        x.thread();
+        for (int place = 0; place < 4; place++) {
+            x.event(0, READ, place, 0);
+        }
+        Checks.due("8: then the beginning alone", outcomesOf(x), "[0 0 0 0]");
+        x.event(0, WRITE, 1, 3);
+        Checks.due("8: then another value", outcomesOf(x), "[0 0 0 0][0 3 0 0]");
     }
 
     private static void runKeepsLookedAt() {

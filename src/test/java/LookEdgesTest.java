@@ -36,8 +36,11 @@ public final class LookEdgesTest extends Programs {
         fencedRelation();
         kindRelations();
         fullProgramRelations();
+        relationsOfProgramBefore();
         ringWithout();
         ringOfOneAlone();
+        ringOfOneAmongFew();
+        ringOfOneAmongMany();
         ringOfTwelve();
         ringOfFirstBrokenRule();
         ringIsShortest();
@@ -464,6 +467,14 @@ public final class LookEdgesTest extends Programs {
             Checks.due("14: FROM of " + i, pairsOf(x, 1, 4), from[i]);
             Checks.due("14: OUTER of " + i, pairsOf(x, 4, 4), outer[i]);
         }
+        OrderAxioms y = withThreads(4);
+        for (int thread = 0; thread < 4; thread++) {
+            y.event(thread, READ, 0, 0);
+        }
+        y.event(2, WRITE, 0, 1);
+        y.look(15);
+        Checks.due("14: FROM one write", pairsOf(y, 1, 5), "4-0 4-1 4-2 4-3");
+        Checks.due("14: OUTER of one write", pairsOf(y, 4, 5), "4-0 4-1 4-3");
     }
 
     private static void writesRelation() {
@@ -532,6 +543,12 @@ public final class LookEdgesTest extends Programs {
         y.event(1, WRITE, 1, 1);
         y.look(0);
         Checks.due("14: FENCED, of its own thread", pairsOf(y, 7, 6), "2-5");
+        OrderAxioms z = withThreads(1);
+        addEvents(z, 2, 0, READ, 0);
+        addEvents(z, 1, 0, FENCE, 0);
+        addEvents(z, 2, 0, WRITE, 1);
+        z.look(0);
+        Checks.due("14: FENCED, all behind it", pairsOf(z, 7, 5), "0-3 0-4 1-3 1-4");
     }
 
     private static void kindRelations() {
@@ -577,6 +594,29 @@ public final class LookEdgesTest extends Programs {
         Checks.due("14: READ-WRITE of event 11", x.related(9, 7, 11), true);
     }
 
+    private static void relationsOfProgramBefore() {
+        for (int relation = 0; relation < 12; relation++) {
+            OrderAxioms x = withThreads(1);
+            x.event(0, WRITE, 0, 1);
+            x.event(0, READ, 0, 0);
+            x.event(0, FENCE, 0, 0);
+            x.event(0, READ, 0, 0);
+            x.event(0, WRITE, 0, 1);
+            x.depends(1, 3);
+            x.depends(1, 4);
+            x.look(2);
+            x.clear();
+            addThreads(x, 4);
+            for (int i = 0; i < 4; i++) {
+                x.event(i, i % 3, i, 1);
+            }
+            x.event(3, FENCE, 0, 0);
+            x.look(0);
+            Checks.due("14: nothing is left of the program before, " + relation,
+                pairsOf(x, relation, 5), relation == 0 ? "3-4" : "");
+        }
+    }
+
     private static void ringWithout() {
         OrderAxioms x = storeBuffering();
         Checks.due("15: before a look", x.ring(), 0);
@@ -609,6 +649,38 @@ public final class LookEdgesTest extends Programs {
         x.rule(x.make(3, x.make(4, far, 0), far));
         Checks.due("15: the last event alone", x.look(0), 0);
         Checks.due("16: it", ringOf(x), "2");
+    }
+
+    private static void ringOfOneAmongFew() {
+        OrderAxioms x = withThreads(1);
+        addEvents(x, 2, 0, FENCE, 0);
+        x.rule(x.make(3, 0, x.make(4, 0, 0)));
+        Checks.due("15: one of two", x.look(0), 0);
+        Checks.due("16: the first of two", ringOf(x), "0");
+        Checks.due("15: it forbids", x.run(), 0);
+    }
+
+    /** One event alone is in a ring, all others stand in long rows that end. */
+    private static void ringOfOneAmongMany() {
+        for (int first = 0; first < 2; first++) {
+            OrderAxioms x = withThreads(2);
+            addEvents(x, first == 0 ? 10 : 0, 0, FENCE, 0);
+            int read = x.event(1, READ, 0, 0);
+            x.event(1, WRITE, 1, 1);
+            addEvents(x, first == 0 ? 0 : 10, 0, FENCE, 0);
+            int back = x.make(4, x.make(2, 0, x.make(3, 0, 0)), 0);
+            int alone = x.make(3, 9, x.make(4, 9, 0));
+            x.rule(0);
+            x.rule(back);
+            Checks.due("15: rows that end", x.look(0), -1);
+            x.rule(x.make(0, back, alone));
+            Checks.due("15: and one alone", x.look(0), 2);
+            Checks.due("16: it", ringOf(x), "" + read);
+            x.given(0);
+            x.rule(x.make(0, 0, x.make(3, 9, x.make(4, 9, 0))));
+            Checks.due("15: with rows the other way", x.look(0), 0);
+            Checks.due("16: it", ringOf(x), "" + read);
+        }
     }
 
     private static void ringOfTwelve() {

@@ -39,6 +39,7 @@ public final class ModelEdgesTest extends Programs {
         joinGoesBetween();
         turns();
         closureBySteps();
+        closureByEachEvent();
         lastRelationIsMade();
         ruleCounts();
         noSuchRelationForRule();
@@ -265,6 +266,24 @@ public final class ModelEdgesTest extends Programs {
         Checks.due("5: down by steps", pairsOf(y, backAll, 4), "1-0 2-0 2-1 3-0 3-1 3-2");
         Checks.due("5: round to itself", pairsOf(y, ways, 4), "0-0 0-1 0-2 0-3 1-0 1-1 1-2 1-3 "
             + "2-0 2-1 2-2 2-3 3-0 3-1 3-2 3-3");
+    }
+
+    private static void closureByEachEvent() {
+        for (int between = 0; between < 3; between++) {
+            OrderAxioms x = withThreads(2);
+            for (int i = 0; i < 3; i++) {
+                x.event(i == between ? 0 : 1, i == between ? READ : WRITE, 0, 1);
+            }
+            // The read reads the lower write and comes back before the higher one.
+            x.make(CLOSURE, x.make(UNION, 1, 3), 0);
+            x.look(2);
+            int low = between == 0 ? 1 : 0;
+            int high = between == 2 ? 1 : 2;
+            Checks.due("5: step to " + between, x.related(13, low, between), true);
+            Checks.due("5: step from " + between, x.related(13, between, high), true);
+            Checks.due("5: steps by " + between, x.related(13, low, high), true);
+            Checks.due("5: not back", x.related(13, high, low), false);
+        }
     }
 
     private static void lastRelationIsMade() {
