@@ -6,22 +6,26 @@ import java.util.TreeSet;
 
 /** The class has the document's face, and nothing else of it can be seen. */
 public final class FaceTest {
+    private static final String ARGUMENT = "IllegalArgumentException";
+    private static final String UNSUPPORTED = "UnsupportedOperationException";
+    private static final String INDEX = "IndexOutOfBoundsException";
+
     private static final Set<String> METHODS = new TreeSet<>(Set.of(
-        "int thread()",
-        "int event(int,int,int,int)",
-        "boolean depends(int,int)",
-        "int make(int,int,int)",
-        "int rule(int)",
-        "int given(int)",
-        "int run()",
-        "int outcome(int,int)",
-        "int witness(int,int)",
-        "int look(int)",
-        "int source(int)",
-        "int order(int,int)",
-        "boolean related(int,int,int)",
+        "int thread() throws " + UNSUPPORTED,
+        "int event(int,int,int,int) throws " + ARGUMENT + "," + UNSUPPORTED,
+        "boolean depends(int,int) throws " + ARGUMENT,
+        "int make(int,int,int) throws " + ARGUMENT + "," + UNSUPPORTED,
+        "int rule(int) throws " + ARGUMENT + "," + UNSUPPORTED,
+        "int given(int) throws " + ARGUMENT,
+        "int run() throws " + UNSUPPORTED,
+        "int outcome(int,int) throws " + INDEX,
+        "int witness(int,int) throws " + INDEX,
+        "int look(int) throws " + INDEX + "," + UNSUPPORTED,
+        "int source(int) throws " + INDEX,
+        "int order(int,int) throws " + INDEX,
+        "boolean related(int,int,int) throws " + INDEX,
         "int ring()",
-        "int ringAt(int)",
+        "int ringAt(int) throws " + INDEX,
         "int count(int)",
         "int clear()"));
 
@@ -89,6 +93,11 @@ public final class FaceTest {
             text.append(text.charAt(text.length() - 1) == '(' ? "" : ",");
             text.append(parameter.getSimpleName());
         }
-        return text.append(')').toString();
+        text.append(')');
+        for (Class<?> thrown : method.getExceptionTypes()) {
+            text.append(text.charAt(text.length() - 1) == ')' ? " throws " : ",");
+            text.append(thrown.getSimpleName());
+        }
+        return text.toString();
     }
 }
